@@ -701,8 +701,10 @@ public final class PastCatchers {
         private final int[] way = new int[PEOPLE];
         private final int[] slip = new int[PEOPLE];
         private final int[] order = new int[PEOPLE];
-        /** Those who are not there, as bits. */
+        /** Those who are not there, who catch, and who run, as bits. */
         private int absent;
+        private int catchers;
+        private int runners;
         private boolean handsOut;
         /** One who is sent to a lane; -1: nobody is. */
         private int sent;
@@ -730,14 +732,6 @@ public final class PastCatchers {
             leader = behindWhom;
         }
 
-        private int catchers() {
-            return group.catching & ~absent;
-        }
-
-        private int runners() {
-            return group.running() & ~absent;
-        }
-
         /** One shout: who is caught, and catches from then on. */
         private int goesOn() {
             int caught = caughtNext();
@@ -747,6 +741,8 @@ public final class PastCatchers {
         }
 
         private int caughtNext() {
+            catchers = group.catching & ~absent;
+            runners = group.running() & ~absent;
             measuresCatchers();
             choosesWays();
             measuresRunners();
@@ -765,7 +761,6 @@ public final class PastCatchers {
         }
 
         private void measuresCatchers() {
-            int catchers = catchers();
             Arrays.fill(reachers, handsOut ? catchers : 0);
             for (int p = 0; p < PEOPLE; p++) {
                 if (isIn(catchers, p)) {
@@ -787,7 +782,6 @@ public final class PastCatchers {
 
         /** Goes behind measuresCatchers: who seeks looks at what they reach. */
         private void choosesWays() {
-            int runners = runners();
             for (int p = 0; p < PEOPLE; p++) {
                 if (isIn(runners, p)) {
                     way[p] = p == sent ? sentTo : wayOf(p);
@@ -800,7 +794,6 @@ public final class PastCatchers {
 
         /** Goes behind choosesWays: how one dodges may depend on its way. */
         private void measuresRunners() {
-            int runners = runners();
             for (int p = 0; p < PEOPLE; p++) {
                 if (isIn(runners, p)) {
                     learns(p, way[p]);
@@ -822,7 +815,7 @@ public final class PastCatchers {
         }
 
         private int strongestLane(int p) {
-            int others = runners() & ~(1 << p);
+            int others = runners & ~(1 << p);
             int strongest = -1;
             int lane = group.lane[p];
             for (int q = 0; q < PEOPLE; q++) {
@@ -866,7 +859,6 @@ public final class PastCatchers {
 
         /** Puts all who run one behind the other: how many they are. */
         private int linesUp() {
-            int runners = runners();
             int many = 0;
             for (int p = 0; p < PEOPLE; p++) {
                 if (isIn(runners, p) && p != follower) {
