@@ -46,9 +46,6 @@ public final class PastCatchers {
         if (!isDigit(v) || !isLane(lane) || !isDigit(pace) || !isDigit(strength)) {
             return BAD;
         }
-        if (now.size >= PEOPLE) {
-            return FULL;
-        }
         return now.joins(kind, v, lane, pace, strength);
     }
 
@@ -644,6 +641,7 @@ public final class PastCatchers {
             return (bits & ~everyone()) == 0;
         }
 
+        /** The number; FULL. Those who were undone left nothing here: the image's free places are as new. */
         private int joins(int itsKind, int itsV, int itsLane, int itsPace, int itsStrength) {
             int p = size;
             if (p < 0 || p >= PEOPLE) {
@@ -654,9 +652,6 @@ public final class PastCatchers {
             lane[p] = itsLane;
             pace[p] = itsPace;
             strength[p] = itsStrength;
-            // One who was undone may have left a row and a bit here.
-            Arrays.fill(turns, p * PARTS, p * PARTS + PARTS, 0);
-            catching &= ~(1 << p);
             size++;
             return p;
         }

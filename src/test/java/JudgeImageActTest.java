@@ -72,6 +72,8 @@ public final class JudgeImageActTest {
         x.catches(1, false);
         x.shout();
         x.see(2);
+        x.book(-1);
+        x.book(3);
         x.book(3);
         Due.yard(x, "reach 4 p=1");
         x.person(0, 0, 0, 0, 0);
@@ -84,6 +86,15 @@ public final class JudgeImageActTest {
         due.is("seen", x.see(0), 1);
         due.is("book", x.count(2), 1);
         due.is("yard", x.of(1, 7), 3);
+        due.is("the book's rows: 2 is not caught", x.looked(), 1);
+        x.book(-1);
+        x.book(x.told(1) ^ x.on(1, 0));
+        x.image();
+        due.is("the book as it is", x.looked(), -5);
+        x.book(-1);
+        x.book(2);
+        x.undo();
+        due.is("the book as it was", x.looked(), -5);
         due.is("row", x.row(0, 1, 0), 5);
         due.is("yet again", x.undo(), 2);
         due.is("row again", x.row(0, 1, 0), 5);

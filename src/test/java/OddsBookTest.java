@@ -30,6 +30,8 @@ public final class OddsBookTest {
         Due.yard(x, "reach 6 p=1");
         due.is("surely", x.odds(0, 1, 0), 1);
         due.is("surely, below", x.odds(0, 1, 1), 1);
+        Due.yard(x, "reach 9 p=1");
+        due.is("surely, and from no lane 7", x.odds(0, 1, 0), 1);
         Due.yard(x, "dodge 9 p=0");
         due.is("never", x.odds(0, 1, 0), 0);
         due.is("never, below", x.odds(0, 1, 1), 1);

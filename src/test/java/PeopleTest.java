@@ -105,6 +105,8 @@ public final class PeopleTest {
         due.is("seeks the nearest, then the least", x.of(6, 6), 1);
         x.set(6, 0, 4);
         due.is("seeks the nearest", x.of(6, 6), 5);
+        x.set(6, 0, 0);
+        due.is("seeks its own lane 0", x.of(6, 6), 0);
 
         PastCatchers y = new PastCatchers();
         y.person(2, 0, 5, 0, 9);

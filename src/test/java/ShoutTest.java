@@ -11,6 +11,7 @@ public final class ShoutTest {
         on();
         last();
         beyond();
+        theLast();
         due.end("ShoutTest");
     }
 
@@ -76,12 +77,14 @@ public final class ShoutTest {
         x.person(0, 0, 5, 0, 9);
         x.catches(3, true);
         x.catches(4, true);
+        x.person(0, 0, 1, 0, 0);
         Due.yard(x, "reach 1 p=3;reach 2 p=4;hold 1 p=3|p=4");
-        // 0 meets 3 alone: caught (10 > 9). 1 meets 4 alone: caught. 2 meets nobody free.
-        due.is("each catches once: 2 runs", x.on(1, 0), 4);
+        // 0 meets 3 alone: caught (10 > 9). 1 meets 4 alone: caught. 2 and 5 meet nobody free.
+        due.is("each catches once: 2 and 5 run", x.on(1, 0), 36);
         due.is("two", x.on(1, 1), 2);
         Due.yard(x, "reach 1 p=3;reach 2 p=4");
         // 9 is no more than 9: 0 comes across, and nobody is busy by it.
+        x.set(5, 0, 6);
         due.is("who failed is free", x.shout(), 2);
     }
 
@@ -157,6 +160,35 @@ public final class ShoutTest {
         y.set(1, 0, 5);
         due.is("both at once: nobody", y.last(0), -5);
         due.is("both at once: two shouts", y.last(1), 2);
+    }
+
+    private static void theLast() {
+        PastCatchers x = new PastCatchers();
+        x.person(6, 0, 0, 1, 0);
+        x.person(6, 0, 0, 0, 0);
+        x.person(0, 0, 6, 0, 0);
+        x.person(0, 0, 3, 0, 9);
+        x.catches(3, true);
+        Due.yard(x, "reach 0 p=3;reach 0 p<2;dodge 30 y<9");
+        x.row(0, 1, 3);
+        x.row(1, 1, 3);
+        // One is caught at shout 9, the other at shout 29.
+        due.is("behind 30", x.last(1), 30);
+        due.is("who", x.last(0), 2);
+        due.is("29 are too few", x.on(29, 0), 6);
+        x.person(0, 0, 6, 0, 0);
+        due.is("two are left", x.last(1), -5);
+        for (int i = 0; i < 999; i++) {
+            x.shout();
+        }
+        due.is("999", x.told(0), 999);
+        x.catches(1, false);
+        due.is("no more shouts", x.shout(), -3);
+        due.is("none was", x.told(0), 999);
+        due.is("but asked", x.on(1, 0), 22);
+        // 999 modulo 4 is 3, 1009 modulo 4 is 1, and both are 9 modulo 10.
+        due.is("not at 999", x.on(10, 0), 22);
+        due.is("at 1009", x.on(11, 0), 20);
     }
 
     private static void beyond() {

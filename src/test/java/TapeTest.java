@@ -29,6 +29,7 @@ public final class TapeTest {
         due.is("all 0", x.read(0, 59), 0);
         due.is("nothing", x.tape(0, -1, 61), 1);
         due.is("nothing is there", x.item(0, 0, 1), -11);
+        due.is("nothing to read", x.read(0, 0), NO);
         due.is("nothing twice", x.tape(0, -1, -1), 1);
     }
 

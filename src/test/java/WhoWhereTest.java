@@ -59,6 +59,8 @@ public final class WhoWhereTest {
         Due.yard(x, "dodge 9 p>0");
         due.is("none from anywhere", x.stand(0, 0), 0);
         due.is("how many", x.stand(0, 1), 0);
+        Due.yard(x, "hold 50 l=7;reach 9 p=0;dodge 40 p>0");
+        due.is("no lane 7", x.stand(0, 0), 0);
         due.is("lane stays", x.of(0, 2), 0);
     }
 
@@ -73,6 +75,9 @@ public final class WhoWhereTest {
         Due.yard(x, "dodge 6 l=4");
         due.is("it dodges in 4", x.best(0), 87);
         due.is("catches", x.best(1), -3);
+        x.set(1, 0, 0);
+        due.is("not 0, 1", x.best(0), 124);
+        x.set(1, 0, 4);
         x.person(0, 0, 3, 9, 0);
         x.set(1, 1, 9);
         Due.yard(x, "hold 1 p=1");
@@ -88,6 +93,8 @@ public final class WhoWhereTest {
         due.is("4 and 2 are 6", x.need(0), 4);
         Due.yard(x, "dodge 20 s=2");
         due.is("2 dodges", x.need(0), 2);
+        Due.yard(x, "dodge 20 s=9;hold 10 p=1");
+        due.is("9", x.need(0), 9);
         Due.yard(x, "hold 30 p=1");
         due.is("by none", x.need(0), -5);
         due.is("catches", x.need(1), -3);
@@ -126,6 +133,7 @@ public final class WhoWhereTest {
         x.set(0, 1, 2);
         due.is("the first", x.hands(), 0);
         due.is("reach is as it was", x.of(3, 7), 1);
+        due.is("and the next shout, too", x.on(1, 1), 0);
 
         // If all lanes are reached, one who seeks keeps its own.
         PastCatchers y = new PastCatchers();
@@ -153,6 +161,9 @@ public final class WhoWhereTest {
         due.is("6 alone", x.alone(1), 1);
         due.is("nobody", x.alone(3), -1);
         due.is("the others are still there", x.told(2), 6);
+        x.set(1, 1, 4);
+        x.alone(1);
+        due.is("the next shout is as it was", x.on(1, 1), 1);
 
         // One who seeks flees from the one alone.
         PastCatchers y = new PastCatchers();
@@ -217,6 +228,22 @@ public final class WhoWhereTest {
         due.is("1 behind 0", x.behind(1, 0), 1);
         due.is("0 in the way of 3 is not reached", x.behind(0, 3), 1);
         due.is("3 behind 1: 0 is caught first", x.behind(3, 1), 1);
+        x.set(1, 0, 1);
+        x.set(2, 0, 2);
+        x.set(3, 0, 6);
+        x.set(1, 1, 9);
+        x.set(2, 1, 4);
+        x.set(0, 1, 3);
+        // 1 at 1 has 9 and is held by 13: 2 is busy when 0 comes.
+        due.is("0 behind 1, who is held", x.behind(0, 1), 1);
+        Due.yard(x, "hold 9 p=2;dodge 5 p=1;dodge 40 p=0&l=3");
+        due.is("0 behind 1, who is not held", x.behind(0, 1), 0);
+        Due.yard(x, "hold 9 p=2");
+        x.set(1, 0, 4);
+        x.set(1, 1, 0);
+        x.set(2, 0, 3);
+        x.set(2, 1, 9);
+        x.set(3, 0, 0);
         x.set(0, 0, 6);
         due.is("3 behind 1: 1 is caught first", x.behind(3, 1), 1);
         due.is("3 behind 0: away", x.behind(3, 0), 1);

@@ -50,6 +50,9 @@ public final class YardTest {
         fault("x", 0);
         fault("rat", 1);
         fault("hole 1 p=1", 3);
+        fault("r 1 p=1", 1);
+        fault("hol 1 p=1", 3);
+        fault("dodg 1 p=1", 4);
         fault("dodged 1 p=1", 5);
         fault("reach", 5);
         fault("reach ", 6);
@@ -141,7 +144,7 @@ public final class YardTest {
         String[] right = {"p=2", "k=5", "l=6", "s=8", "a=3", "y=4", "p<3", "p>1", "k<6", "k>4", "l<7",
             "l>5", "s<9", "s>7", "a<4", "a>2", "y<5", "y>3", "!p=1", "(p=2)", "!!p=2", "!(p=1)",
             "p=2&k=5", "p=1|k=5", "p=2|k=1", "p=2|k=1&l=1", "k=1&l=1|p=2", "(p=2|k=1)&l=6",
-            "!p=1&k=5", "!(p=2&k=1)", "!p=2|k=5", "p=1|k=1|l=6", "p=2&k=5&l=6", "(p=1|p=2)&!(k=1|k=2)"};
+            "!p=1&k=5", "!(p=2&k=1)", "!p=2|k=5", "p=1|k=1|l=6", "p=2&k=5&l=6", "p=2&(k=5&l=6)", "p=2&(k=5&!(l=5&s=8))", "(p=1|p=2)&!(k=1|k=2)"};
         for (String test : right) {
             holdsFor(test, true);
         }
@@ -168,9 +171,16 @@ public final class YardTest {
         due.is("holds", x.of(0, 7), 3);
         due.is("a fault", Due.yard(x, "reach 4"), -17);
         due.is("the first holds", x.of(0, 7), 3);
+        due.is("a fault behind a clause", Due.yard(x, "reach 5 p=0;hold 7 p=0;x"), -33);
         due.is("second", Due.yard(x, "hold 4 p=0"), 1);
         due.is("no reach clauses now", x.of(0, 7), 1);
         due.is("hold", x.of(0, 8), 4);
+        String many = "hold 1 p=0" + "&p=0".repeat(20);
+        for (int i = 0; i < 8; i++) {
+            due.is("a long fault", Due.yard(x, many + "&"), -101);
+        }
+        due.is("third", Due.yard(x, many + "&p=1|p=0"), 2);
+        due.is("faults leave nothing", x.of(0, 8), 1);
     }
 
     private static void fullOfYards() {
