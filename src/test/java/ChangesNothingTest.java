@@ -13,6 +13,7 @@ public final class ChangesNothingTest {
 
     public static void main(String[] args) throws Exception {
         constants();
+        noSuchOne();
         refusedOnAPlainOne();
         refusedOnAFullOne();
         asked();
@@ -162,6 +163,41 @@ public final class ChangesNothingTest {
         due.is("CAST of KINDS", x.taken(0, 1), -12);
         due.is("PLACE", x.item(0, 3, 0), -13);
         due.is("SIZE", x.tape(0, 0, -1), -14);
+    }
+
+    /** Numbers that nobody has, those among them that a shift by them would take for 0 or 1. */
+    private static void noSuchOne() throws Exception {
+        due.says("Answers: NONE (-1) no such number");
+        PastCatchers x = plain();
+        List<Long> before = seen(plain());
+        for (int p : new int[] {-1, 5, 6, 7, 8, 31, 32, 33, -31, -32, 64, 256, Integer.MIN_VALUE, Integer.MAX_VALUE}) {
+            for (int what = 0; what < 10; what++) {
+                due.is("of " + p, x.of(p, what), -1);
+            }
+            due.is("set " + p, x.set(p, 0, 3), -1);
+            due.is("catches " + p, x.catches(p, false), -1);
+            due.is("row " + p, x.row(p, 0, 3), -1);
+            due.is("stand " + p, x.stand(p, 0), -1);
+            due.is("best " + p, x.best(p), -1);
+            due.is("need " + p, x.need(p), -1);
+            due.is("alone " + p, x.alone(p), -1);
+            due.is("moved " + p, x.moved(p), -1);
+            due.is("behind " + p, x.behind(p, 1), -1);
+            due.is("behind one " + p, x.behind(1, p), -1);
+            due.is("behind both " + p, x.behind(p, p), -1);
+            due.is("odds of " + p, x.odds(p, 0, 0), NO);
+            due.is("odds by " + p, x.odds(1, p, 0), NO);
+            due.is("taken " + p, x.taken(p, 0), -11);
+        }
+        for (int tape : new int[] {-1, 6, 7, 32, 64, -6, Integer.MIN_VALUE, Integer.MAX_VALUE}) {
+            due.is("tape " + tape, x.tape(tape, 0, 1), -1);
+            due.is("item of " + tape, x.item(tape, 0, 1), -1);
+            due.is("read of " + tape, x.read(tape, 0), NO);
+            due.is("judge of " + tape, x.judge(tape, 0), -1);
+            due.is("shift from " + tape, x.shift(tape, 0, 0, 0, 1), -1);
+            due.is("shift to " + tape, x.shift(0, 0, tape, 0, 1), -1);
+        }
+        due.is("what is unlike then", unlike(seen(x), before), 0);
     }
 
     private static void refusedOnAPlainOne() throws Exception {

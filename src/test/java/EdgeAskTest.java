@@ -67,6 +67,9 @@ public final class EdgeAskTest {
         due.is("0", x.stand(0, 0), 0);
         Due.yard(x, "hold 9 l=6;dodge 12 p=1;reach 6 p=0");
         due.is("where it holds more", x.stand(0, 0), 6);
+        Due.yard(x, "hold 50 l=7;reach 9 p=0;dodge 30 p=1");
+        due.is("there is no lane 7", x.stand(0, 0), 0);
+        due.is("nor one caught from it", x.stand(0, 1), 0);
         due.says("STAND: what 0 the LANE, 1 how many. NONE; STATE: it runs.");
         due.is("it runs", x.stand(1, 0), -3);
         due.is("it runs: how many", x.stand(1, 1), -3);
@@ -212,6 +215,10 @@ public final class EdgeAskTest {
         due.is("k -2 ahead of four", x.spread(-2), -1);
         PastCatchers y = Due.people(7, 0, 0, 3, 0, 0, 0, 0, 3, 0, 0, 0, 0, 3, 0, 0);
         spreads(y, "nobody to catch", 0, 0, 0, 0);
+        PastCatchers last = Due.people(112, 0, 0, 6, 0, 0, 0, 0, 4, 0, 0, 0, 0, 1, 0, 0, 0, 0, 3, 9, 9, 0, 0, 3, 0, 9,
+            0, 0, 3, 0, 9, 0, 0, 3, 0, 9);
+        Due.yard(last, "reach 0 p<9;hold 1 p=4&l=6|p=5&l=1|p=6&l=4;dodge 9 p<3");
+        spreads(last, "the last three", 3, 6, 1, 4);
         PastCatchers z = Due.people(7, 0, 0, 3, 0, 1, 0, 0, 3, 0, 1, 0, 0, 3, 0, 1, 0, 0, 6, 2, 0);
         Due.yard(z, "reach 0 p<9");
         spreads(z, "all three are needed", 1, 6, 6, 6);

@@ -161,6 +161,26 @@ public final class EdgeHostTest {
             due.is("book", y.count(2), 2);
             due.is("the book's rows: 0, and then 2", y.looked(), -5);
         }
+        PastCatchers seven = new PastCatchers();
+        for (int p = 0; p < 7; p++) {
+            seven.person(6, p, p, p, p);
+            seven.row(p, 3, 6 - p);
+        }
+        seven.catches(6, true);
+        due.is("of seven", seven.image(), 7);
+        for (int p = 0; p < 7; p++) {
+            seven.row(p, 3, 0);
+            seven.set(p, 0, 3);
+            seven.set(p, 1, 3);
+            seven.catches(p, p < 6);
+        }
+        due.is("back to seven", seven.undo(), 7);
+        for (int p = 0; p < 7; p++) {
+            due.is("row of " + p, seven.row(p, 3, 0), 6 - p);
+            due.is("lane of " + p, seven.of(p, 2), p);
+            due.is("strength of " + p, seven.of(p, 4), p);
+            due.is("catches " + p, seven.of(p, 5), p == 6 ? 1 : 0);
+        }
         y.set(0, 0, 0);
         due.is("a newer image", y.image(), 2);
         y.set(0, 0, 1);

@@ -95,6 +95,16 @@ public final class EdgeShoutTest {
         x.person(2, 0, 6, 0, 0);
         due.is("another shielded one: of two as strong the first", x.of(4, 6), 5);
         due.is("not itself", x.of(0, 6), 1);
+        for (int p = 0; p < 7; p++) {
+            PastCatchers y = new PastCatchers();
+            for (int q = 0; q < 7; q++) {
+                y.person(2, 0, q, 0, q == p ? 9 : 1);
+            }
+            due.is(p + ", the strongest, is behind the first of the others", y.of(p, 6), p == 0 ? 1 : 0);
+            due.is("the last others are behind " + p, y.of(p == 6 ? 5 : 6, 6), p);
+            y.set(p == 6 ? 5 : 6, 1, 2);
+            due.is(p + " is behind the strongest of the others", y.of(p, 6), p == 6 ? 5 : 6);
+        }
     }
 
     private static void seeking() throws Exception {
@@ -138,6 +148,19 @@ public final class EdgeShoutTest {
             due.is("at shout " + shout, x.of(0, 6), 6 - shout % 4);
             due.is("the other at shout " + shout, x.of(1, 6), 0);
             x.shout();
+        }
+        PastCatchers y = Due.people(0, 6, 0, 0, 0, 0, 6, 0, 0, 0, 0, 6, 0, 0, 0, 0, 6, 0, 0, 0, 0, 6, 0, 0, 0, 0,
+            6, 0, 0, 0, 0, 6, 0, 0, 0, 0);
+        for (int p = 0; p < 7; p++) {
+            for (int part = 0; part < 4; part++) {
+                y.row(p, part, (p + 2 * part) % 7);
+            }
+        }
+        for (int shout = 0; shout < 5; shout++) {
+            for (int p = 0; p < 7; p++) {
+                due.is("each its own, " + p + " at shout " + shout, y.of(p, 6), (p + 2 * (shout % 4)) % 7);
+            }
+            y.shout();
         }
         due.says("The ROW of a TOLD one becomes a LANE for SHOUTS modulo 4 being part: what it was. NONE: person, part;"
             + " BAD: n; STATE: another KIND.");

@@ -183,7 +183,15 @@ public final class EdgeYardTest {
         due.is("holds", hold("holds 1 p=0"), -14);
         due.is("reachs", hold("reachs 1 p=0"), -15);
         due.is("dodgy", hold("dodgy 1 p=0"), -14);
-        due.is("reac", hold("reac 1 p=0"), -14);
+        for (String word : new String[] {"reach", "hold", "dodge"}) {
+            for (int length = 0; length < word.length(); length++) {
+                String begun = word.substring(0, length);
+                due.is("'" + begun + "' is no word", hold(begun + " 1 p=0"), -10 - length);
+                due.is("nor is '" + begun + "x'", hold(begun + "x 1 p=0"), -10 - length);
+                due.is("nor is '" + begun + "' and its next sign twice",
+                    hold(word.substring(0, length + 1) + word.charAt(length) + " 1 p=0"), -11 - length);
+            }
+        }
     }
 
     private static void blanksAndNumbers() throws Exception {
@@ -221,6 +229,7 @@ public final class EdgeYardTest {
         due.is("( ) of ( )", hold("hold 1 ((p=0))"), 1);
         due.is("a long row of |", hold("hold 1 p=1" + "|p=1".repeat(20) + "|p=0"), 1);
         due.is("a long row of &", hold("hold 1 p=0" + "&p=0".repeat(20) + "&p=1"), 0);
+        truths();
         due.is("|p", hold("hold 1 |p=0"), -17);
         due.is("&p", hold("hold 1 &p=0"), -17);
         due.is("p=0|", hold("hold 1 p=0|"), -21);
@@ -234,6 +243,36 @@ public final class EdgeYardTest {
         due.is("!", hold("hold 1 !"), -18);
         due.is("!)", hold("hold 1 (!)"), -19);
         due.is(")(", hold("hold 1 )("), -17);
+    }
+
+    private static String told(boolean truth) {
+        return truth ? "p=0" : "p=1";
+    }
+
+    private static void truths() {
+        for (int bits = 0; bits < 16; bits++) {
+            boolean a = (bits & 1) != 0;
+            boolean b = (bits & 2) != 0;
+            boolean c = (bits & 4) != 0;
+            boolean d = (bits & 8) != 0;
+            truth("a|b&c|d", a || b && c || d, a, b, c, d);
+            truth("a&b|c&d", a && b || c && d, a, b, c, d);
+            truth("a&b&c|d", a && b && c || d, a, b, c, d);
+            truth("a|b&c&d", a || b && c && d, a, b, c, d);
+            truth("(a|b)&(c|d)", (a || b) && (c || d), a, b, c, d);
+            truth("a&(b|c)&d", a && (b || c) && d, a, b, c, d);
+            truth("a|(b|c)&d", a || (b || c) && d, a, b, c, d);
+            truth("a&(b|c&d)", a && (b || c && d), a, b, c, d);
+            truth("!a&b|!c&d", !a && b || !c && d, a, b, c, d);
+            truth("!(a&b)|!(c|d)", !(a && b) || !(c || d), a, b, c, d);
+            truth("a|!b&!!c|!d", a || !b && c || !d, a, b, c, d);
+            truth("!(a|b&!(c|d))", !(a || b && !(c || d)), a, b, c, d);
+        }
+    }
+
+    private static void truth(String form, boolean want, boolean a, boolean b, boolean c, boolean d) {
+        String text = form.replace("a", told(a)).replace("b", told(b)).replace("c", told(c)).replace("d", told(d));
+        due.is(text, hold("hold 1 " + text), want ? 1 : 0);
     }
 
     /** Whether a test holds of one who catches: p 2, k 4, l 6, s 8, a 3, at shout 5. */
@@ -271,6 +310,10 @@ public final class EdgeYardTest {
         due.is("another letter", hold("hold 1 v=0"), -17);
         due.is("a great letter", hold("hold 1 K=0"), -17);
         due.is("a number first", hold("hold 1 0=p"), -17);
+        due.is("no letter ahead of <", hold("hold 1 <1"), -17);
+        due.is("no letter ahead of =", hold("hold 1 =0"), -17);
+        due.is("no letter ahead of >", hold("hold 1 >0"), -17);
+        due.is("a number alone", hold("hold 1 1"), -17);
 
         PastCatchers x = Due.people(0, 1, 0, 3, 0, 0, 1, 0, 4, 0, 0);
         Due.yard(x, "dodge 7 l=0;dodge 20 l=3;dodge 40 l=4;dodge 8 l=6");
@@ -330,6 +373,11 @@ public final class EdgeYardTest {
         due.is("one yard", x.count(1), 1);
         due.is("the next is 1", Due.yard(x, "hold 6 p=0"), 1);
         due.is("it holds", x.of(0, 8), 6);
+        for (int i = 0; i < 9; i++) {
+            due.is("a long fault", Due.yard(x, "hold 1 p=0" + "&p=0".repeat(22) + "&"), -109);
+        }
+        due.is("leaves nothing of itself", Due.yard(x, "hold 1 p=0" + "&p=0".repeat(21) + "&p=1"), 2);
+        due.is("holds not", x.of(0, 8), 0);
         due.says("THE TEXT, which is empty then, is a YARD, and holds: its number.");
         due.is("empty", x.count(3), 0);
         due.is("empty behind a fault", Due.yard(x, "hold"), -14);

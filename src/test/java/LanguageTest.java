@@ -7,7 +7,9 @@ import java.nio.file.Files;
 import java.nio.file.Path;
 import java.util.ArrayList;
 import java.util.List;
+import java.util.Map;
 import java.util.Set;
+import java.util.TreeMap;
 import java.util.TreeSet;
 import java.util.regex.Matcher;
 import java.util.regex.Pattern;
@@ -26,6 +28,7 @@ public final class LanguageTest {
         String source = Files.readString(SOURCE, StandardCharsets.UTF_8);
         words(withoutTexts(source));
         lengths(source);
+        depths(withoutTexts(source));
         due.end("LanguageTest");
     }
 
@@ -137,6 +140,40 @@ public final class LanguageTest {
         while (made.find()) {
             not("new " + made.group(1), !own.contains(made.group(1)));
         }
+    }
+
+    /** Calls by name alone, so that two methods of one name count as one: no path of calls may be longer than eight. */
+    private static void depths(String source) {
+        Map<String, String> bodies = new TreeMap<>();
+        Matcher method = Pattern.compile("(?m)^( +)(?:public|private)[^=;{]*?(\\w+)\\([^)]*\\) \\{$((?s).*?)^\\1\\}$")
+            .matcher(source);
+        while (method.find()) {
+            bodies.merge(method.group(2), method.group(3), String::concat);
+        }
+        not("few methods were found: " + bodies.size(), bodies.size() < 80);
+        int deepest = 0;
+        for (String name : bodies.keySet()) {
+            deepest = Math.max(deepest, depth(name, bodies, new TreeSet<>()));
+        }
+        System.out.println("calls go " + deepest + " deep");
+        not("calls go " + deepest + " deep", deepest > 8);
+    }
+
+    private static int depth(String name, Map<String, String> bodies, Set<String> open) {
+        open.add(name);
+        int deepest = 0;
+        Matcher call = Pattern.compile("(\\w+)\\(").matcher(bodies.get(name));
+        Set<String> called = new TreeSet<>();
+        while (call.find()) {
+            called.add(call.group(1));
+        }
+        for (String next : called) {
+            if (bodies.containsKey(next) && !open.contains(next)) {
+                deepest = Math.max(deepest, depth(next, bodies, open));
+            }
+        }
+        open.remove(name);
+        return deepest + 1;
     }
 
     /** A method begins with its brace at a line's end and ends with one at the same indent. */
