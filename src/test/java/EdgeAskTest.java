@@ -128,6 +128,15 @@ public final class EdgeAskTest {
         due.is("4, and again 7", x.need(0), 4);
         Due.yard(x, "hold 30 p=1;dodge 40 s>9");
         due.is("not 10", x.need(0), -5);
+        x.set(0, 0, 6);
+        due.is("not reached: 0", x.need(0), 0);
+        x.set(0, 0, 3);
+        x.catches(1, false);
+        due.is("nobody catches: 0", x.need(0), 0);
+        due.is("nobody catches a fast one: 0, not less", Due.people(0, 0, 0, 3, 9, 5).need(0), 0);
+        due.is("9 is no more than 9 of pace: 0", Due.people(2, 0, 0, 3, 9, 5, 0, 0, 3, 0, 9).need(0), 0);
+        due.is("9 is more than 8 of pace: 1", Due.people(2, 0, 0, 3, 8, 5, 0, 0, 3, 0, 9).need(0), 1);
+        x.catches(1, true);
         due.says("NEED; -5. NONE; STATE: it catches.");
         due.is("it catches", x.need(1), -3);
         due.is("nobody", x.need(2), -1);
@@ -265,6 +274,25 @@ public final class EdgeAskTest {
         due.is("it dodges in the way of 1", z.behind(0, 1), 1);
         Due.yard(z, "hold 20 p=2;reach 9 p=2;dodge 30 p=1;dodge 40 p=0&l=3");
         due.is("it dodges in its own way alone", z.behind(0, 1), 0);
+        // Of seven none catches; of six who run, the last may be caught behind any.
+        PastCatchers seven = Due.people(0, 0, 0, 3, 0, 0, 0, 0, 3, 1, 0, 0, 0, 3, 2, 0, 3, 0, 3, 3, 0, 0, 0, 3, 4, 0,
+            6, 0, 3, 5, 0, 0, 0, 3, 6, 0);
+        for (int p = 0; p < 7; p++) {
+            for (int q = 0; q < 7; q++) {
+                due.is(p + " of seven behind " + q, seven.behind(p, q), p == q ? -2 : 1);
+            }
+        }
+        seven.catches(6, true);
+        Due.yard(seven, "hold 50 p=6;reach 9 p=6;dodge 99 p<3");
+        for (int part = 0; part < 4; part++) {
+            seven.row(5, part, 3);
+        }
+        // They go 4 2 1 0 5 3, and one of 4, 5, 3 is caught, whichever is first; the others dodge.
+        for (int q = 0; q < 6; q++) {
+            due.is("4 behind " + q, seven.behind(4, q), q == 4 ? -2 : q == 3 || q == 5 ? 1 : 0);
+            due.is("3 behind " + q, seven.behind(3, q), q == 3 ? -2 : 1);
+            due.is("5 behind " + q, seven.behind(5, q), q == 5 ? -2 : 1);
+        }
         due.says("BEHIND: 1, 0. NONE; BAD: one of the PEOPLE; STATE: one of the two catches.");
         due.is("nobody behind", z.behind(3, 0), -1);
         due.is("behind nobody", z.behind(0, 3), -1);

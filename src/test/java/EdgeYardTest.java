@@ -297,6 +297,11 @@ public final class EdgeYardTest {
                 due.is(letter + "=" + n, holds(letter + "=" + n), facts[i] == n ? 1 : 0);
                 due.is(letter + ">" + n, holds(letter + ">" + n), facts[i] > n ? 1 : 0);
             }
+            due.is(letter + "<0", holds(letter + "<0"), 0);
+            due.is("!" + letter + "<0", holds("!" + letter + "<0"), 1);
+            due.is(letter + ">99", holds(letter + ">99"), 0);
+            due.is(letter + "=0", holds(letter + "=0"), 0);
+            due.is("!" + letter + "=00", holds("!" + letter + "=00"), 1);
             due.is(letter + "<99", holds(letter + "<99"), 1);
             due.is(letter + ">0", holds(letter + ">0"), 1);
             due.is(letter + "=0" + facts[i], holds(letter + "=0" + facts[i]), 1);
@@ -378,6 +383,10 @@ public final class EdgeYardTest {
         }
         due.is("leaves nothing of itself", Due.yard(x, "hold 1 p=0" + "&p=0".repeat(21) + "&p=1"), 2);
         due.is("holds not", x.of(0, 8), 0);
+        due.is("a fault behind two clauses", Due.yard(x, "reach 5 p=0;hold 7 p=0;x"), -33);
+        due.is("a shorter one", Due.yard(x, "hold 4 p=0"), 3);
+        due.is("none of these counts: hold", x.of(0, 8), 4);
+        due.is("none of these counts: reach", x.of(0, 7), 1);
         due.says("THE TEXT, which is empty then, is a YARD, and holds: its number.");
         due.is("empty", x.count(3), 0);
         due.is("empty behind a fault", Due.yard(x, "hold"), -14);
