@@ -325,6 +325,13 @@ public final class EdgeAskTest {
         x.catches(3, true);
         due.is("one who catches", x.see(8), 127);
         due.is("none", x.see(0), 8);
+        due.says("SEEN is told by hand, as bits.");
+        for (int bits = 0; bits < 128; bits++) {
+            due.is("bits " + bits, x.see(bits), Math.max(bits - 1, 0));
+        }
+        x.set(3, 1, 9);
+        due.is("one is caught, whoever is seen", x.shout(), 1);
+        due.is("as it was told by hand, not as it went", x.see(0), 127);
     }
 
     private static void moved() throws Exception {

@@ -66,7 +66,7 @@ public final class EdgeShoutTest {
             due.is("edged on " + lane, x.of(0, 6), lane <= 3 ? 0 : 6);
             due.is("dashing on " + lane, x.of(1, 6), lane <= 3 ? 0 : 6);
         }
-        due.says("RUNNER, WAITING: LANE.");
+        due.says("WAY of one who runs: the LANE in which it does: RUNNER, WAITING: LANE.");
         for (int lane = 0; lane < 7; lane++) {
             PastCatchers x = Due.people(0, 0, 0, lane, 0, 0, 3, 0, lane, 0, 0);
             due.is("runner on " + lane, x.of(0, 6), lane);
@@ -199,8 +199,8 @@ public final class EdgeShoutTest {
     }
 
     private static void order() throws Exception {
-        due.says("all who run go one behind the other: WAITING, TOLD ones behind all others; else who has more PACE first"
-            + " (of several the lesser number).");
+        due.says("A SHOUT: all who run go one behind the other: WAITING, TOLD ones behind all others; else who has more"
+            + " PACE first (of several the lesser number).");
         for (int kind = 0; kind < 7; kind++) {
             for (int other = 0; other < 7; other++) {
                 boolean late = kind == 3 || kind == 6;

@@ -127,7 +127,7 @@ public final class EdgeYardTest {
     }
 
     private static void text() throws Exception {
-        due.says("THE TEXT (bytes, 100 at most)");
+        due.says("A YARD is read from THE TEXT (bytes, 100 at most)");
         PastCatchers x = new PastCatchers();
         for (int i = 1; i <= 100; i++) {
             due.is("byte " + i, x.feed('h'), i);

@@ -26,7 +26,9 @@ public final class LanguageTest {
         classes.add(PastCatchers.class);
         inside(classes);
         String source = Files.readString(SOURCE, StandardCharsets.UTF_8);
+        order(source);
         words(withoutTexts(source));
+        made(withoutTexts(source));
         lengths(source);
         depths(withoutTexts(source));
         due.end("LanguageTest");
@@ -83,6 +85,37 @@ public final class LanguageTest {
         not("constants " + constants, !constants.equals(Set.of("public static final int NONE",
             "public static final int BAD", "public static final int STATE", "public static final int FULL",
             "public static final long NO")));
+    }
+
+    /** The calls stand in the document's order, each group behind the heading that the interface has there. */
+    private static void order(String source) throws Exception {
+        String text = Files.readString(DOCUMENT, StandardCharsets.UTF_8);
+        Matcher group = Pattern.compile("Ahead of the calls ([^\\n]*?) the interface says: (---- [^\\n]*)\\.").matcher(text);
+        List<String> want = new ArrayList<>();
+        while (group.find()) {
+            want.add("// " + group.group(2));
+            for (String call : group.group(1).split(", ")) {
+                want.add(call.replace("`", ""));
+            }
+        }
+        List<String> is = new ArrayList<>();
+        Matcher part = Pattern.compile("(?m)^    (// ---- .*)$|^    public (?:int|long) (\\w+)\\(").matcher(source);
+        while (part.find()) {
+            is.add(part.group(1) == null ? part.group(2) : part.group(1));
+        }
+        not("no groups in the document", want.size() != 36 + 5);
+        not("the order is " + is + ", due is " + want, is.size() < want.size()
+            || !is.subList(0, want.size()).equals(want));
+    }
+
+    /** All that is made is made with an object: by a field's own line, or by the constructor. */
+    private static void made(String source) {
+        String fields = source.replaceAll("(?m)^ +private (?:static )?(?:final )?[\\w\\[\\]]+ \\w+ = new [^;{}]*;$", "")
+            .replaceAll("(?s)    public PastCatchers\\(\\) \\{.*?\\n    \\}\\n", "");
+        Matcher made = Pattern.compile("[^\\n]*(\\bnew\\b|\\bclone\\(|copyOf|= \\{|\\[\\] \\{)[^\\n]*").matcher(fields);
+        while (made.find()) {
+            not("made by a call: " + made.group(), !made.group().contains(" static final int[] "));
+        }
     }
 
     private static void inside(List<Class<?>> classes) {

@@ -9,25 +9,25 @@ import java.util.regex.Pattern;
 import java.util.stream.Collectors;
 import java.util.stream.Stream;
 
-/** Each sentence of the document that names an edge is said (Due.says) by a test; and so is each promise, whole. */
+/** Each word of the document's terms and promises is said (Due.says) by a test; only headings and the like are not. */
 public final class SentencesTest {
     private static final Due due = new Due();
     private static final Path DOCUMENT = Path.of("../shared/DOC.md"), TESTS = Path.of("src/test/java");
     private static final String LITERAL = "\"((?:[^\"\\\\]|\\\\.)*)\"";
-    /** From .. to, "at most", "of several", refusals, and what else tells where a thing ends. */
-    private static final Pattern EDGE = Pattern.compile("\\b\\d+ \\.\\. \\d+|\\bn \\.\\. \\d|at most|of several|nearest"
-        + "|-\\d+|\\bNONE\\b|\\bBAD\\b|\\bSTATE\\b|\\bFULL\\b|\\bNO\\b|\\bNOTHING\\b|\\bCAST\\b|\\bPLACE\\b|\\bSIZE\\b"
-        + "|\\bbeyond\\b|\\bbelow\\b|\\babove\\b|at first|\\bempty\\b|\\bends\\b|wrapping|modulo|lowest|fewe\\w+|more than"
-        + "|no more|or less|\\bFAULT\\b|changes nothing|within|as they|\\b1 or 2\\b|\\bnobody\\b|no such");
+    /** What parts the sentences and tells nothing itself; how the interface is parted is looked at by LanguageTest. */
+    private static final Pattern FRAME = Pattern.compile("## Terms|==== \\d|```text|```"
+        + "|## Promise \\d+: (?:A new object|\\w+) |`int [^`]*`: |`long [^`]*`: "
+        + "|Ahead of the calls (?:`\\w+`(?:, )?)+ the interface says: ---- [a-z, ]+\\.");
 
     public static void main(String[] args) throws IOException {
         String text = Files.readString(DOCUMENT, StandardCharsets.UTF_8).replaceAll("\\s+", " ");
         int from = text.indexOf("## Terms");
         int to = text.indexOf("## Not promised");
         due.is("the document has terms and promises", from >= 0 && to > from ? 1 : 0, 1);
-        BitSet said = said(text);
-        edges(text, from, to, said);
-        promises(text.substring(0, to), said);
+        BitSet told = said(text);
+        frames(text, from, to, told);
+        words(text, from, to, told);
+        promises(text.substring(0, to));
         due.end("SentencesTest");
     }
 
@@ -55,31 +55,32 @@ public final class SentencesTest {
         return said;
     }
 
-    private static void isSaid(String text, int from, int to, BitSet said) {
-        String around = text.substring(Math.max(0, from - 30), Math.min(text.length(), to + 30));
-        due.is("'" + text.substring(from, to) + "' in '" + around + "' is said", said.nextClearBit(from) >= to ? 1 : 0, 1);
-    }
-
-    private static void edges(String text, int from, int to, BitSet said) {
-        Matcher edge = EDGE.matcher(text).region(from, to);
-        int many = 0;
-        while (edge.find()) {
-            isSaid(text, edge.start(), edge.end(), said);
-            many++;
+    private static void frames(String text, int from, int to, BitSet told) {
+        Matcher frame = FRAME.matcher(text).region(from, to);
+        while (frame.find()) {
+            told.set(frame.start(), frame.end());
         }
-        due.is("edges were found", many > 150 ? 1 : 0, 1);
-        System.out.println("the document names " + many + " edges");
     }
 
-    private static void promises(String text, BitSet said) {
+    private static void words(String text, int from, int to, BitSet told) {
+        Matcher word = Pattern.compile("[\\w`!&|<>=(-]+").matcher(text).region(from, to);
+        int many = 0;
+        while (word.find()) {
+            many++;
+            String around = text.substring(Math.max(0, word.start() - 30), Math.min(text.length(), word.end() + 30));
+            due.is("'" + word.group() + "' in '" + around + "' is said",
+                told.nextClearBit(word.start()) >= word.end() ? 1 : 0, 1);
+        }
+        due.is("words were found", many > 1500 ? 1 : 0, 1);
+        System.out.println("the document's terms and promises have " + many + " words");
+    }
+
+    private static void promises(String text) {
         Matcher promise = Pattern.compile("## Promise (\\d+): [^`]*`[^`]*`: ").matcher(text);
         int many = 0;
         while (promise.find()) {
             many++;
             due.is("promises in a row", Integer.parseInt(promise.group(1)), many);
-            int end = text.indexOf(" ## Promise ", promise.end());
-            int last = end < 0 ? text.trim().length() : end;
-            isSaid(text, promise.end(), last, said);
         }
         due.is("promises", many, 37);
     }
